@@ -18,7 +18,7 @@ public final class PairExpressions {
     private static final int MAX_DEPTH = 6;
     private static final int MAX_STEPS = 18;
     private static final int MAX_PAIRS = 9;
-    private static final int STACK_ROWS = 186;
+    private static final int STACK_ROWS = MAX_DEPTH * WORDS;
     private static final int STAR_DOUBLINGS = 3;
 
     private final int[] stack = new int[STACK_ROWS];
@@ -87,7 +87,13 @@ public final class PairExpressions {
             return TOO_FEW;
         }
         int top = topStart();
-        makeStar(top);
+        // Two short words have at most 8 letters together, so at most 8 pairs of X other than that of two empty
+        // words stand one after another: with the empty pair put to X, three doublings reach them all.
+        stack[top] |= 1;
+        for (int doubling = 0; doubling < STAR_DOUBLINGS; doubling++) {
+            makeCat(top, top);
+            copyMadeTo(top);
+        }
         return putMadeOnTop();
     }
 
@@ -277,16 +283,6 @@ public final class PairExpressions {
         }
     }
 
-    // Two short words have at most 8 letters together, so of the pairs of X that are not two empty words at
-    // most 8 stand one after another: with the pair of two empty words put to X, three doublings reach them all.
-    private void makeStar(int x) {
-        stack[x] |= 1;
-        for (int doubling = 0; doubling < STAR_DOUBLINGS; doubling++) {
-            makeCat(x, x);
-            copyMadeTo(x);
-        }
-    }
-
     private static int allJoined(int fronts, int backs) {
         int wholes = 0;
         for (int front = 0; front < WORDS; front++) {
@@ -335,11 +331,11 @@ public final class PairExpressions {
     }
 
     private static boolean isValid(int len, int bits) {
-        return len >= 0 && len <= MAX_LENGTH && bits >= 0 && bits < 1 << len;
+        return len >= 0 && len <= MAX_LENGTH && bits >= 0 && bits < (1 << len);
     }
 
     private static boolean holds(int set, int word) {
-        return (set >> word & 1) != 0;
+        return ((set >> word) & 1) != 0;
     }
 
     private static int sizeOf(int set) {

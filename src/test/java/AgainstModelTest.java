@@ -1,7 +1,7 @@
 /** Long mixed runs of calls, the same on the program and on the slow model; every answer is compared. */
 public final class AgainstModelTest {
-    private static final int RUNS = 600;
-    private static final int WHOLE_RELATIONS = 400;
+    private static final int RUNS = 200;
+    private static final int WHOLE_RELATIONS = 120;
     /** The document promises nothing after this many calls of one object. */
     private static final int MOST_CALLS = 512;
     private static final Check check = new Check("AgainstModelTest");
