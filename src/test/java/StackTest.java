@@ -1,36 +1,20 @@
-/** Promises 1 to 10: a new object, and the calls that make and define expressions. */
+/** Promises 1 to 10 on ordinary inputs: a new object, and the calls that make and define expressions. */
 public final class StackTest {
-    private static final int BAD_ARG = PairExpressions.BAD_ARG;
-    private static final int FULL = PairExpressions.FULL;
-    private static final int TOO_FEW = PairExpressions.TOO_FEW;
-    /** 9 pairs and 18 steps, with one expression left on the stack. */
-    private static final String EIGHTEEN = "00 00 . 00 . 00 . 00 . 00 . 00 . 00 . 00 . *";
     private static final Check check = new Check("StackTest");
 
     public static void main(String[] args) {
         newObject();
         pairsOfLetters();
-        pairOutOfRange();
-        pairLimits();
-        pairRefusalOrder();
         catOrderOfParts();
         catOfManyPairs();
         alternatives();
         stars();
         turns();
-        operatorsTooFew();
-        operatorsFull();
-        refusedCallsChangeNothing();
         stepsAndDepth();
         discards();
         defines();
         defineTakesTheTop();
         check.end();
-    }
-
-    private static void counts(String when, PairExpressions x, int steps, int depth) {
-        check.due(when + ": steps()", x.steps(), steps);
-        check.due(when + ": depth()", x.depth(), depth);
     }
 
     private static void onlyPair(String text, String u, String v) {
@@ -41,79 +25,19 @@ public final class StackTest {
 
     private static void newObject() {
         PairExpressions x = new PairExpressions();
-        counts("promise 1, new", x, 0, 0);
+        check.due("promise 1: steps and depth", Check.counts(x), "0 0");
         check.due("promise 1: pairs()", x.pairs(), 0);
-        check.due("promise 1: related of empty words", x.related(0, 0, 0, 0), false);
-        check.due("promise 1: images", x.images(0, 0), 0);
-        check.due("promise 1: image", x.image(0, 0, 0), PairExpressions.NONE);
-        check.due("promise 1: sources", x.sources(0, 0), 0);
-        check.due("promise 1: domain()", x.domain(), 0);
-        check.due("promise 1: manyValued()", x.manyValued(), 0);
-        check.due("promise 1: fixed()", x.fixed(), 0);
-        check.due("promise 1: twoSteps()", x.twoSteps(), 0);
         PairExpressions other = Check.defined("00");
-        check.due("promise 1: one object leaves another alone", x.pairs() * 10 + other.pairs(), 1);
+        check.due("promise 1: pairs() of another object", other.pairs(), 1);
+        check.due("promise 1: one object leaves another alone", x.pairs(), 0);
     }
 
     private static void pairsOfLetters() {
-        String[] words = {"0", "1", ""};
-        for (int a = 0; a <= 2; a++) {
-            for (int b = 0; b <= 2; b++) {
-                onlyPair("" + a + b, words[a], words[b]);
-            }
-        }
-    }
-
-    private static void pairOutOfRange() {
-        PairExpressions x = new PairExpressions();
-        int[] outside = {-1, 3, Integer.MIN_VALUE, Integer.MAX_VALUE, 4, 256, 1 << 16, -2};
-        for (int bad : outside) {
-            for (int good = 0; good <= 2; good++) {
-                check.due("promise 2: pair(" + bad + ", " + good + ")", x.pair(bad, good), BAD_ARG);
-                check.due("promise 2: pair(" + good + ", " + bad + ")", x.pair(good, bad), BAD_ARG);
-            }
-            check.due("promise 2: pair(" + bad + ", " + bad + ")", x.pair(bad, bad), BAD_ARG);
-        }
-        counts("promise 2, after refusals", x, 0, 0);
-    }
-
-    private static void pairLimits() {
-        PairExpressions x = new PairExpressions();
-        for (int n = 1; n <= 6; n++) {
-            check.due("promise 2: pair number " + n, x.pair(0, 1), n);
-        }
-        check.due("promise 2: a seventh on the stack", x.pair(0, 1), FULL);
-        counts("promise 2, stack full", x, 6, 6);
-        check.due("promise 2: room again", Check.build(x, ". . 00 00"), 6);
-        check.due("promise 2: full again", x.pair(1, 1), FULL);
-        check.due("promise 2: the ninth", Check.build(x, ". 00"), 6);
-        check.due("promise 2: a tenth with no room", x.pair(1, 1), FULL);
-        check.due("promise 2: before the tenth", x.cat(), 5);
-        check.due("promise 2: a tenth", x.pair(1, 1), FULL);
-        counts("promise 2, nine pairs", x, 13, 5);
-        x.discard();
-        check.due("promise 2: nine anew after discard", Check.build(x, "00 00 . 00 . 00 . 00 . 00 . 00 . 00 . 00"), 2);
-        check.due("promise 2: a tenth after discard", x.pair(1, 1), FULL);
-        x.define();
-        check.due("promise 2: nine anew after define", Check.build(x, "00 00 . 00 . 00 . 00 . 00 . 00 . 00 . 00"), 2);
-        check.due("promise 2: a tenth after define", x.pair(1, 1), FULL);
-    }
-
-    private static void pairRefusalOrder() {
-        PairExpressions x = new PairExpressions();
-        Check.build(x, "00 00 00 00 00 00");
-        check.due("promise 2: BAD_ARG before a full stack", x.pair(3, 0), BAD_ARG);
-        x.discard();
-        Check.build(x, EIGHTEEN);
-        check.due("promise 2: 18 steps", x.pair(0, 0), FULL);
-        check.due("promise 2: BAD_ARG before 18 steps", x.pair(0, 3), BAD_ARG);
-        x.discard();
-        Check.build(x, "00 * * * * * * * * * * * * * * * * *");
-        counts("promise 2, one pair and 17 stars", x, 18, 1);
-        check.due("promise 2: 18 steps with room and pairs left", x.pair(0, 0), FULL);
-        x.discard();
-        Check.build(x, "00 * * * * * * * * * * * * * * * *");
-        check.due("promise 2: the 18th step", x.pair(0, 0), 2);
+        onlyPair("01", "0", "1");
+        onlyPair("11", "1", "1");
+        onlyPair("12", "1", "");
+        onlyPair("20", "", "0");
+        onlyPair("22", "", "");
     }
 
     private static void catOrderOfParts() {
@@ -194,109 +118,36 @@ public final class StackTest {
         check.due("promise 6: sources become images", Check.defined("00 11 | 20 | * ~").images(3, 0), 4);
     }
 
-    private static void operatorsTooFew() {
-        PairExpressions x = new PairExpressions();
-        check.due("promise 3: cat on an empty stack", x.cat(), TOO_FEW);
-        check.due("promise 4: alt on an empty stack", x.alt(), TOO_FEW);
-        check.due("promise 5: star on an empty stack", x.star(), TOO_FEW);
-        check.due("promise 6: turn on an empty stack", x.turn(), TOO_FEW);
-        counts("after refusals on an empty stack", x, 0, 0);
-        x.pair(0, 1);
-        check.due("promise 3: cat of one", x.cat(), TOO_FEW);
-        check.due("promise 4: alt of one", x.alt(), TOO_FEW);
-        counts("after refusals with one", x, 1, 1);
-        check.due("promise 5: star of one", x.star(), 1);
-        check.due("promise 6: turn of one", x.turn(), 1);
-    }
-
-    private static void operatorsFull() {
-        PairExpressions x = new PairExpressions();
-        check.due("the 18th step", Check.build(x, EIGHTEEN), 1);
-        check.due("promise 3: FULL before TOO_FEW", x.cat(), FULL);
-        check.due("promise 4: FULL before TOO_FEW", x.alt(), FULL);
-        check.due("promise 5: FULL", x.star(), FULL);
-        check.due("promise 6: FULL", x.turn(), FULL);
-        counts("after refusals at 18 steps", x, 18, 1);
-        for (String last : new String[] {".", "|", "*", "~"}) {
-            x.discard();
-            Check.build(x, "00 11 * * * * * * * * * * * * * * *");
-            int left = last.equals(".") || last.equals("|") ? 1 : 2;
-            check.due("18th step " + last, Check.build(x, last), left);
-            counts("18th step " + last, x, 18, left);
-            check.due("19th step " + last, Check.build(x, last), FULL);
-        }
-        x.discard();
-        Check.build(x, "00 11 * * * * * * * * * * * * * * * *");
-        check.due("promise 3: FULL with two on the stack", x.cat(), FULL);
-        check.due("promise 4: FULL with two on the stack", x.alt(), FULL);
-    }
-
-    private static void refusedCallsChangeNothing() {
-        PairExpressions x = Check.defined("11");
-        Check.build(x, "01 * * * * * * * * * * * * * * * * * . | * ~ 10");
-        counts("refused at 18 steps", x, 18, 1);
-        check.due("refused calls leave the relation in use", x.pairs(), 1);
-        x.define();
-        check.due("refused turn left the top", Check.related(x, "000", "111"), true);
-        x = new PairExpressions();
-        Check.build(x, "01 . | 03");
-        check.due("define after refused calls", x.define(), 1);
-        check.due("refused cat and alt left the top", x.pairs(), 1);
-        check.due("and its pair", Check.related(x, "0", "1"), true);
-        x = new PairExpressions();
-        Check.build(x, "00 00 00 00 00 01 11");
-        x.define();
-        check.due("a refused pair left the top", Check.related(x, "0", "1"), true);
-    }
-
     private static void stepsAndDepth() {
         PairExpressions x = new PairExpressions();
         String[] calls = {"00", "11", ".", "01", "|", "*", "~", "22", "20", "."};
         int[] depths = {1, 2, 1, 2, 1, 1, 1, 2, 3, 2};
         for (int n = 0; n < calls.length; n++) {
             Check.build(x, calls[n]);
-            counts("promises 7 and 8, call " + n, x, n + 1, depths[n]);
+            check.due("promises 7 and 8, call " + n, Check.counts(x), (n + 1) + " " + depths[n]);
         }
         x.images(0, 0);
         x.related(0, 0, 0, 0);
         x.pairs();
         x.twoSteps();
-        counts("promises 7 and 8, questions are no steps", x, 10, 2);
+        check.due("promises 7 and 8, questions are no steps", Check.counts(x), "10 2");
         x.define();
-        counts("promises 7 and 8, after define", x, 0, 0);
+        check.due("promises 7 and 8, after define", Check.counts(x), "0 0");
     }
 
     private static void discards() {
-        PairExpressions x = Check.defined("01");
+        PairExpressions x = Check.built("01 = 11 00 *");
         x.discard();
-        counts("promise 9, of an empty stack", x, 0, 0);
-        Check.build(x, "11 00 *");
-        x.discard();
-        counts("promise 9", x, 0, 0);
-        check.due("promise 9: the relation in use stays", x.pairs(), 1);
-        check.due("promise 9: and its pair", Check.related(x, "0", "1"), true);
-        check.due("promise 9: nothing to define", x.define(), TOO_FEW);
+        check.due("promise 9: steps and depth", Check.counts(x), "0 0");
+        check.due("promise 9: the relation in use stays", Check.seen(x), "0 0 16-17");
         check.due("promise 9: starts at one again", x.pair(0, 0), 1);
-        check.due("promise 9: nothing below", x.cat(), TOO_FEW);
-        Check.build(x, "! " + EIGHTEEN + " !");
-        check.due("promise 9: after 18 steps", x.pair(0, 0), 1);
     }
 
     private static void defines() {
-        PairExpressions x = new PairExpressions();
-        check.due("promise 10: empty stack", x.define(), TOO_FEW);
-        for (int n = 1; n <= 6; n++) {
-            for (int pushed = 0; pushed < n; pushed++) {
-                x.pair(0, 0);
-            }
-            check.due("promise 10: answers the number there was", x.define(), n);
-            counts("promise 10", x, 0, 0);
-        }
-        check.due("promise 10: refused again", x.define(), TOO_FEW);
-        check.due("promise 10: a refused define leaves the relation", Check.related(x, "0", "0"), true);
-        Check.build(x, EIGHTEEN);
-        check.due("promise 10: defines at 18 steps", x.define(), 1);
-        check.due("promise 10: the star of nine letters", x.pairs(), 1);
+        PairExpressions x = Check.built("00 11 01");
+        check.due("promise 10: answers the number there was", x.define(), 3);
+        check.due("promise 10: empties the stack and sets the relation", Check.seen(x), "0 0 16-17");
+        check.due("promise 10: starts at one again", x.pair(0, 0), 1);
     }
 
     private static void defineTakesTheTop() {
