@@ -39,6 +39,7 @@ public final class StackBoundaryTest {
         starOfNothing();
         starAtItsLongest();
         catAtFourLetters();
+        turnAtTheEnds();
         stepsCountAcceptedCalls();
         stepsAfterEmptying();
         depthAtItsEnds();
@@ -290,7 +291,16 @@ public final class StackBoundaryTest {
         check.due("five on the right", Check.seen(Check.defined("20 20 . 20 . 20 . 20 .")), "0 0");
         check.due("four and five", Check.seen(Check.defined("00 00 . 00 . 00 . 20 .")), "0 0");
         check.due("three and two", Check.seen(Check.defined("00 00 . 00 . 00 00 . .")), "0 0");
-        check.due("nothing put to four", Check.seen(Check.defined("01 10 . 10 . 11 . 22 .")), "0 0 71-73");
+        check.due("nothing put behind four", Check.seen(Check.defined("11 11 . 11 . 11 . 22 .")), "0 0 79-79");
+        check.due("nothing put before four", Check.seen(Check.defined("22 11 11 . 11 . 11 . .")), "0 0 79-79");
+    }
+
+    private static void turnAtTheEnds() {
+        check.sentence("promise 6: turn of the first and of the last word");
+        check.due("empty and empty", Check.seen(Check.defined("22 ~")), "0 0 0-0");
+        check.due("empty and 1111", Check.seen(Check.defined("21 21 . 21 . 21 . ~")), "0 0 79-0");
+        check.due("1111 and empty", Check.seen(Check.defined("12 12 . 12 . 12 . ~")), "0 0 0-79");
+        check.due("1111 and 0000", Check.seen(Check.defined("10 10 . 10 . 10 . ~")), "0 0 64-79");
     }
 
     private static void stepsCountAcceptedCalls() {
