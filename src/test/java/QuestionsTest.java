@@ -18,6 +18,7 @@ public final class QuestionsTest {
         fixedCounted();
         twoStepsCounted();
         questionsChangeNothing();
+        exampleOfTheReadme();
         check.end();
     }
 
@@ -147,5 +148,19 @@ public final class QuestionsTest {
         }
         check.due("the stack is as it was", Check.build(x, ". ="), 1);
         check.due("and what is on it", Check.related(x, "01", "10"), true);
+    }
+
+    private static void exampleOfTheReadme() {
+        PairExpressions x = new PairExpressions();
+        check.due("README: pair(0, 0)", x.pair(0, 0), 1);
+        check.due("README: pair(1, 1)", x.pair(1, 1), 2);
+        check.due("README: alt()", x.alt(), 1);
+        check.due("README: pair(2, 0)", x.pair(2, 0), 2);
+        check.due("README: alt() again", x.alt(), 1);
+        check.due("README: star()", x.star(), 1);
+        check.due("README: define()", x.define(), 1);
+        check.due("README: related(1, 1, 3, 2)", x.related(1, 1, 3, 2), true);
+        check.due("README: images(2, 3)", x.images(2, 3), 10);
+        check.due("README: image(2, 3, 1)", x.image(2, 3, 1), 51);
     }
 }
